@@ -392,9 +392,8 @@ public final class CallStages {
         int setUpMended(int inlet, int outlet) {
             int moved = fewestMoves(inlet, outlet);
             if (moved == NONE) return NONE;
-            moveChain(switchOf(outlet), bestA, bestB);
             join(inlet, outlet);
-            goBy(inlet, bestA);
+            goByBest(inlet);
             return moved;
         }
 
@@ -536,11 +535,14 @@ public final class CallStages {
         }
 
         private boolean mendAgain(int inlet) {
-            int outlet = outletOf[inlet];
-            if (fewestMoves(inlet, outlet) == NONE) return false;
-            moveChain(switchOf(outlet), bestA, bestB);
-            goBy(inlet, bestA);
+            if (fewestMoves(inlet, outletOf[inlet]) == NONE) return false;
+            goByBest(inlet);
             return true;
+        }
+
+        private void goByBest(int inlet) {
+            moveChain(switchOf(outletOf[inlet]), bestA, bestB);
+            goBy(inlet, bestA);
         }
 
         private void goBackToEarlier() {

@@ -16,6 +16,7 @@ public final class CrossbarTest {
         partedRefused();
         partedIsDoneAgain();
         longestParting();
+        partedWhereOutletZeroWaits();
         slotBySum();
         slotBySumTakesTheFirst();
         slotByTurns();
@@ -195,6 +196,26 @@ public final class CrossbarTest {
         for (int k = 0; k < 80; k++) for (int i = 0; i < 5; i++) sum[i * 5 + x.parted(k * 3, i)]++;
         for (int cell = 0; cell < 25; cell++) due("one of three rounds, cell " + cell, sum[cell] > 0 ? 1 : 0, 1);
         due("parted(250, 0)", x.parted(250, 0), UNKNOWN);
+    }
+
+    /** Outlet 0 must be served, or comes up to SPAN, though all that have something for it come first elsewhere. */
+    private static void partedWhereOutletZeroWaits() {
+        dueAsTried(new int[] {1, 1, 1, 1, 1}, new int[] {1, 0, 1, 0, 1}, new int[] {1, 1, 1, 1, 1}, new int[] {1, 1, 1, 0, 0},
+            new int[] {1, 1, 1, 1, 1});
+        dueAsTried(new int[] {0, 2, 5, 4, 0}, new int[] {0, 0, 0, 3, 0}, new int[] {4, 3, 0, 0, 5}, new int[] {5, 0, 1, 1, 5},
+            new int[] {2, 0, 0, 4, 0});
+    }
+
+    private static void dueAsTried(int[]... table) {
+        CallStages x = barred(table.length);
+        send(x, table);
+        SlowStages slow = new SlowStages();
+        slow.bar(table.length);
+        for (int i = 0; i < table.length; i++) for (int o = 0; o < table.length; o++) slow.traffic(i, o, table[i][o]);
+        for (int k = 0; k < slow.span(); k++) {
+            for (int i = 0; i < table.length; i++) due("parted(" + k + ", " + i + ")", x.parted(k, i), slow.parted(k, i));
+        }
+        due("changes()", x.changes(), slow.changes());
     }
 
     private static void slotBySum() {
