@@ -6,8 +6,9 @@ import java.util.Map;
 import java.util.TreeMap;
 
 /**
- * The document once more, by trying all there is to try: slow, and written without a look at the class itself, so that
- * runs of calls on both can be held against one another.
+ * The document once more, by trying all there is to try: slow, and by other ways than the class goes, so that runs of
+ * calls on both can be held against one another. Both come from one reading of the document: what is read wrongly in
+ * both is not found so.
  */
 final class SlowStages {
     private static final int UNKNOWN = -1, OUTSIDE = -2, STATE = -3, FULL = -4, NONE = -9;
