@@ -445,6 +445,7 @@ public final class EdgesOfComparersTest {
         due("trace()", x.trace(), 4);
         due("LONG: show(2)", x.show(2), 2);
         due("trace()", x.trace(), 4 * 31 + 4);
+        due("the first one: show(0)", compared(8, 5, 6).show(0), 0);
         says("Terms", "TURNED ones have their own (5): 30");
         x = compared(8, 5, 6, 2, 1, 7, 0);
         due("neighbours: show(1)", x.show(1), 30);

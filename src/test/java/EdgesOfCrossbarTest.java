@@ -1,3 +1,5 @@
+import java.util.Arrays;
+
 /** Traffic and queues of the crossbar: each sentence of the document that names an edge has a test of its own here. */
 public final class EdgesOfCrossbarTest {
     private static final int UNKNOWN = -1, OUTSIDE = -2, NONE = -9;
@@ -430,19 +432,28 @@ public final class EdgesOfCrossbarTest {
         due("a hundred rounds", x.changes(), 2);
         int[] full = {50, 50, 50, 50, 50};
         x = sent(full, full, full, full, full);
-        due("the longest: all rounds are of cells that are full, fifty by fifty", x.changes(), counted(full));
+        due("the longest parting", x.changes(), counted(full, full, full, full, full));
+        int[][] restless = {{4, 7, 20, 41, 42}, {24, 28, 41, 1, 4}, {47, 41, 39, 32, 28}, {28, 50, 20, 18, 38}, {28, 22, 25, 2, 45}};
+        due("as many as were found", sent(restless).changes(), 25);
+        due("as many as were found, one by one", counted(restless), 25);
     }
 
-    /** The changes of the longest parting, counted one by one on objects of their own. */
-    private static int counted(int[] full) {
+    /** Changes, counted round by round on objects of their own; each round is held against all that can be tried. */
+    private static int counted(int[]... table) {
+        SlowStages slow = new SlowStages();
+        slow.bar(5);
+        for (int i = 0; i < 5; i++) for (int o = 0; o < 5; o++) slow.traffic(i, o, table[i][o]);
         int changes = 0;
         int[] ahead = null;
         CallStages x = null;
-        for (int k = 0; k < 250; k++) {
-            if (k % 50 == 0) x = sent(full, full, full, full, full);
+        for (int k = 0; k < slow.span(); k++) {
+            if (k % 50 == 0) x = sent(table);
             int[] row = new int[5];
-            for (int i = 0; i < 5; i++) row[i] = x.parted(k, i);
-            if (ahead == null || !java.util.Arrays.equals(ahead, row)) changes++;
+            for (int i = 0; i < 5; i++) {
+                row[i] = x.parted(k, i);
+                due("parted(" + k + ", " + i + ")", row[i], slow.parted(k, i));
+            }
+            if (ahead == null || !Arrays.equals(ahead, row)) changes++;
             ahead = row;
         }
         return changes;
