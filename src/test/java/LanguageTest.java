@@ -3,6 +3,8 @@ import com.sun.source.tree.CompilationUnitTree;
 import com.sun.source.tree.ImportTree;
 import com.sun.source.tree.MethodInvocationTree;
 import com.sun.source.tree.MethodTree;
+import com.sun.source.tree.NewArrayTree;
+import com.sun.source.tree.NewClassTree;
 import com.sun.source.tree.Tree;
 import com.sun.source.tree.VariableTree;
 import com.sun.source.util.JavacTask;
@@ -32,6 +34,11 @@ public final class LanguageTest {
         + " net(int,int,int) netOf(int) order(int,int,int,int) outlet(int) parted(int,int) put(int,int,int)"
         + " queue(int,int,int) round(int) rounds() sheet(int,int,int) show(int) slot(int,int,int,int) sort(int,int,int)"
         + " sorter(int) span() tell(int) trace() traffic(int,int,int) waiting() ways() wires(int)";
+    private static final Set<String> STATIC_TYPES = Set.of("int", "long", "boolean", "char", "String",
+        "int[]", "long[]", "char[]", "byte[]");
+    private static final Set<String> LIBRARY = Set.of("Arrays.fill", "Arrays.copyOf", "Arrays.copyOfRange",
+        "System.arraycopy", "Math.max", "Math.min", "Math.abs", "Math.floorDiv", "Math.floorMod", "Integer.bitCount",
+        "Long.bitCount", "Integer.compare", "Long.compare");
     private static final Due DUE = new Due("LanguageTest");
 
     public static void main(String[] args) throws Exception {
@@ -84,6 +91,7 @@ public final class LanguageTest {
 
     private static final class Reader extends TreeScanner<Void, Void> {
         private int classes = 0;
+        private boolean insideMethod = false;
 
         @Override
         public Void scan(Tree tree, Void none) {
@@ -108,7 +116,9 @@ public final class LanguageTest {
             DUE.due(tree.getSimpleName() + " is static", isOuter || isStatic ? 1 : 0, 1);
             int fields = 0;
             for (Tree member : tree.getMembers()) {
-                if (member instanceof VariableTree field && !isStatic(field)) fields++;
+                if (member instanceof VariableTree field) {
+                    if (isStatic(field)) dueConstant(field); else fields++;
+                }
                 if (member.getKind() == Tree.Kind.BLOCK) DUE.due("an initialiser block in " + tree.getSimpleName(), 1, 0);
             }
             DUE.due("fields of " + tree.getSimpleName() + ": " + fields, fields <= 20 ? 1 : 0, 1);
@@ -119,6 +129,25 @@ public final class LanguageTest {
             return field.getModifiers().getFlags().contains(javax.lang.model.element.Modifier.STATIC);
         }
 
+        private static void dueConstant(VariableTree field) {
+            boolean isFinal = field.getModifiers().getFlags().contains(javax.lang.model.element.Modifier.FINAL);
+            DUE.due(field.getName() + " is final", isFinal && field.getInitializer() != null ? 1 : 0, 1);
+            DUE.due(field.getName() + " is of a type for constants", STATIC_TYPES.contains(field.getType().toString()) ? 1 : 0, 1);
+        }
+
+        /** All calls of a run live in one room: rows are made with the object, and no call makes any. */
+        @Override
+        public Void visitNewArray(NewArrayTree tree, Void none) {
+            DUE.due("a method makes " + tree, insideMethod ? 1 : 0, 0);
+            return super.visitNewArray(tree, none);
+        }
+
+        @Override
+        public Void visitNewClass(NewClassTree tree, Void none) {
+            DUE.due("a method makes " + tree, insideMethod ? 1 : 0, 0);
+            return super.visitNewClass(tree, none);
+        }
+
         @Override
         public Void visitMethod(MethodTree tree, Void none) {
             String name = tree.getName().toString();
@@ -127,14 +156,17 @@ public final class LanguageTest {
             boolean isPublic = tree.getModifiers().getFlags().contains(javax.lang.model.element.Modifier.PUBLIC);
             boolean publicName = (" " + FACE).contains(" " + name + "(");
             DUE.due(name + " bears a public name", publicName && !isPublic ? 1 : 0, 0);
-            return super.visitMethod(tree, none);
+            insideMethod = !name.equals("<init>");
+            super.visitMethod(tree, none);
+            insideMethod = false;
+            return null;
         }
 
         @Override
         public Void visitMethodInvocation(MethodInvocationTree tree, Void none) {
             String called = tree.getMethodSelect().toString();
-            boolean exact = called.startsWith("Math.") && called.endsWith("Exact");
-            DUE.due(called, exact || called.startsWith("System.") && !called.equals("System.arraycopy") ? 1 : 0, 0);
+            // What begins with a capital is a class of the library: the class calls none of its own that way.
+            DUE.due(called, Character.isUpperCase(called.charAt(0)) && !LIBRARY.contains(called) ? 1 : 0, 0);
             return super.visitMethodInvocation(tree, none);
         }
     }
